@@ -606,13 +606,13 @@ public final class RecordHeap {
         }
 
         /** A cell's bytes: those that tell the next cell, if there is one to tell, then a part of a record. */
-        private void assemble(int next, Row record, int from, int to) {
+        private void assemble(int next, Row row, int from, int to) {
             length = 0;
             if (next != NONE) {
                 link(next);
             }
-            for (int i = Math.max(0, from); i < to && i < record.length; i++) {
-                add(record.bytes[i]);
+            for (int i = Math.max(0, from); i < to && i < row.length; i++) {
+                add(row.bytes[i]);
             }
         }
     }
