@@ -272,6 +272,19 @@ public final class PromiseTests {
         due("time", orders("put time of time + 1"), 1);
         due("time", find(many("" + (char) 18, "", 17)) >= 0 ? 1 : 0, 1);
         due("none put yet", orders("put latest + 1 of 0; put 1 of 1 if latest = 0 - 1"), 1);
+        fresh();
+        due("the latest at 0", orders("put 1 of 1; drop latest"), 2);
+        due("the latest one told, even dropped", orders("put 1 of 1; put 1 of 2; drop 1; put 5 + latest of 3; drop latest"), 5);
+        due("records", x.count(0), 1);
+        fresh();
+        put(40, 1);
+        due("grow to 200: two pieces come to its own page", orders("grow 0 to 200"), -3);
+        rule("bars if page = 0");
+        due("grow to 200", orders("grow 0 to 200"), 1);
+        due("view", x.view(0), 200);
+        due("sign", x.sign(199), 7);
+        due("grow to nothing", orders("grow 0 to 0"), 1);
+        due("view", x.view(0), 0);
     }
 
     private static void p06CantBe() {
@@ -427,6 +440,7 @@ public final class PromiseTests {
         fresh();
         faultOfLaw("bars if " + many("(", "", 5) + "[[[[1]]]]=1" + many(")", "", 5), 16);
         faultOfLaw("bars if " + many("(", "", 5) + "1=[[[[1]]]]" + many(")", "", 5), 18);
+        due("8 in the second sum", orders("put 1 of [[[[[[[[1]]]]]]]] times 2 if [[[[[[[[1]]]]]]]]=[[[[[[[[1]]]]]]]]"), 2);
         due("8 again behind 8", law("leaves [[[[[[[[1]]]]]]]] + [[[[[[[[1]]]]]]]]"), 0);
         due("400 bytes", law("bars" + many(" ", "", 396)), 1);
         faultOfLaw(many(" ", "", 400), 400);
@@ -719,6 +733,16 @@ public final class PromiseTests {
         due("the piece does not come to slot 0", x.slot(0, 1, 0), 5);
         due("full", x.page(0, 2), 0);
         due("promise", x.page(0, 5), 0);
+        fresh();
+        put(40, 1);
+        due("200: pieces of 12 and 40 on its own page", rewrite(0, 200, 2), -5);
+        due("as it was", x.view(0), 40);
+        rule("bars if page = 0 and size = 40");
+        due("200: the piece of 12 alone", rewrite(0, 200, 2), 2);
+        due("its last piece of 12 and its head", x.page(0, 2), 64 - 4 - 52);
+        due("the head is below it", x.slot(0, 0, 1), 12);
+        due("view", x.view(0), 200);
+        due("201", rewrite(0, 201, 2), -6);
         fresh();
         for (int i = 0; i < 12; i++) {
             put(0, 0);
@@ -1311,7 +1335,18 @@ public final class PromiseTests {
         due("images stay", x.back(1), 0);
         due("view", x.view(0), 3);
         due("promises, too", x.page(0, 5), 7);
+        fresh();
+        x.image(0);
+        rule("bars if page = 0");
         x.image(1);
+        x.back(0);
+        rule("bars if page < 5");
+        x.back(1);
+        due("its laws, not those of the same number", x.search(0), 1);
+        x.back(0);
+        due("none", x.compare(0, 0), -1);
+        x.image(1);
+        put("a");
         put("more");
         x.image(1);
         x.back(1);

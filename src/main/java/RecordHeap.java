@@ -96,7 +96,7 @@ public final class RecordHeap {
     private static final int CLOSE = 5;
 
     private static final long SUM_MOST = 1_000_000_000L;
-    private static final long BROKEN = Long.MIN_VALUE;
+    private static final long BROKEN = -9_000_000_000_000_000_000L;
     private static final int STACK = 64;
 
     private static final int FEW_MOST = 20;
@@ -843,7 +843,6 @@ public final class RecordHeap {
         /** A cell leaves; the directory ends where its last cell or the kept address is. */
         private void clear(int address, int kept) {
             kinds[address] = EMPTY;
-            begins[address] = 0;
             sizes[address] = 0;
             int page = address / PER_PAGE;
             for (int slot = lengths[page] - 1; slot >= 0; slot--) {
