@@ -161,8 +161,7 @@ public final class ModelTests {
         }
     }
 
-    public static void main(String[] args) {
-        int runs = args.length > 0 ? Integer.parseInt(args[0]) : 300;
+    private static void runs(int runs) {
         for (int run = 0; run < runs && wrong == 0; run++) {
             Random r = new Random(run);
             Texts texts = new Texts(r);
@@ -181,9 +180,53 @@ public final class ModelTests {
                 }
             }
         }
-        System.out.println((wrong == 0 ? "ok: " : "FAILED: ") + "the class answers as the model does");
+    }
+
+    private static void texts(int runs) {
+        for (int run = 0; run < runs && wrong == 0; run++) {
+            Random r = new Random(1000000 + run);
+            Texts texts = new Texts(r);
+            heap = new RecordHeap();
+            model = new Model();
+            told = new StringBuilder("texts " + run + "\n");
+            for (int i = 0; i < 100 && wrong == 0; i++) {
+                boolean ofOrders = r.nextBoolean();
+                String text = texts.bent(ofOrders);
+                feed(Tape.bytes(text));
+                if (ofOrders) {
+                    alike("orders() " + text, heap.orders(), model.orders());
+                } else {
+                    alike("law() " + text, heap.law(), model.law());
+                    int law = heap.count(4) - 1;
+                    for (int m = 0; m <= 40; m++) {
+                        alike("compare(" + law + ", " + m + ")", heap.compare(law, m), model.compare(law, m));
+                    }
+                    if (law == 5) {
+                        alike("back(0)", heap.back(0), model.back(0));
+                    }
+                }
+                alike("fault()", heap.fault(), model.fault());
+                alike("stopped()", heap.stopped(), model.stopped());
+                if (i % 20 == 0) {
+                    alike("image(0)", heap.image(0), model.image(0));
+                    standsAlike();
+                }
+            }
+        }
+    }
+
+    private static void close(String name) {
+        System.out.println((wrong == 0 ? "ok: " : "FAILED: ") + name);
         if (wrong != 0) {
             System.exit(1);
         }
+    }
+
+    public static void main(String[] args) {
+        int runs = args.length > 0 ? Integer.parseInt(args[0]) : 300;
+        runs(runs);
+        close("the class answers as the model does");
+        texts(runs);
+        close("the class reads texts as the model does");
     }
 }

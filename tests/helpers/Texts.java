@@ -33,6 +33,42 @@ final class Texts {
         return s.toString();
     }
 
+    /** A text of which some tokens are others, gone, or there twice. */
+    String bent(boolean ofOrders) {
+        java.util.ArrayList<String> tokens = new java.util.ArrayList<>();
+        java.util.regex.Matcher m = java.util.regex.Pattern.compile("(?s)[a-z]+|[0-9]+|[^ ]").matcher(text(ofOrders));
+        while (m.find()) {
+            tokens.add(m.group());
+        }
+        String[] words = {"put", "grow", "drop", "pack", "mend", "leaves", "bars", "of", "to", "times", "if", "not", "and", "or", "(", ")", "[", "]",
+            "<", ">", "=", "+", "-", "*", "/", "%", ";", "0", "7", "8", "20", "21", "1000", "1001", "page", "size", "free", "slots", "promise",
+            "time", "mood", "done", "latest", "live", "x", "Put", "!", "007", "00000000000000000000001"};
+        for (int i = random.nextInt(4); i > 0 && !tokens.isEmpty(); i--) {
+            int at = random.nextInt(tokens.size());
+            int way = random.nextInt(4);
+            if (way == 0) {
+                tokens.remove(at);
+            } else if (way == 1) {
+                tokens.add(at, tokens.get(random.nextInt(tokens.size())));
+            } else if (way == 2) {
+                tokens.set(at, words[random.nextInt(words.length)]);
+            } else {
+                tokens.add(at, words[random.nextInt(words.length)]);
+            }
+        }
+        StringBuilder s = new StringBuilder();
+        for (String token : tokens) {
+            boolean apart = s.length() > 0 && kind(s.charAt(s.length() - 1)) == kind(token.charAt(0)) && random.nextInt(40) > 0;
+            s.append(apart || random.nextInt(3) == 0 ? random.nextInt(5) == 0 ? "   " : " " : "").append(token);
+        }
+        s.setLength(Math.min(400, s.length()));
+        return s.toString();
+    }
+
+    private static int kind(char c) {
+        return c >= 'a' && c <= 'z' ? 1 : c >= '0' && c <= '9' ? 2 : 3;
+    }
+
     private String gap() {
         return random.nextInt(3) == 0 ? "  " : "";
     }
