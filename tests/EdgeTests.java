@@ -6,8 +6,13 @@ public final class EdgeTests {
         20, 21, 38, 39, 40, 41, 60, 61, 63, 64, 99, 100, 127, 128, 199, 200, 201, 255, 256, 380, 381, 400, 401, 999, 1000, 1000000, 1000001,
         Integer.MAX_VALUE - 1, Integer.MAX_VALUE};
 
+    private static final int CALLS = 512;
+    private static final int SLOTS_SEEN = 60;
+    private static final int AMISS_CALLS = 300;
+
     private static RecordHeap x;
     private static Random r;
+    private static int[] kinds;
 
     private static int odd() {
         int way = r.nextInt(4);
@@ -80,78 +85,105 @@ public final class EdgeTests {
         }
     }
 
+    private static String amissOn(int p, int slots) {
+        int free = 64 - 2 * slots;
+        int lowest = 64;
+        boolean[] taken = new boolean[64];
+        for (int s = 0; s < slots; s++) {
+            int kind = x.slot(p, s, 0);
+            kinds[kind]++;
+            if (kind == 0) {
+                continue;
+            }
+            int begin = x.slot(p, s, 1);
+            int size = x.slot(p, s, 2);
+            if (size < 0 || size > 40 || begin < 2 * slots || begin + size > 64 || kind == 2 && size != 2 || kind > 3 && size < 2) {
+                return "cell " + p + " " + s;
+            }
+            for (int i = begin; i < begin + size; i++) {
+                if (taken[i]) {
+                    return "cells over one another on page " + p;
+                }
+                taken[i] = true;
+            }
+            free -= size;
+            lowest = Math.min(lowest, begin);
+        }
+        if (slots > 12 || slots > 0 && x.slot(p, slots - 1, 0) == 0) {
+            return "directory of page " + p;
+        }
+        if (free != x.page(p, 2) || free < 0 || lowest - 2 * slots != x.page(p, 3)) {
+            return "free, gap of page " + p;
+        }
+        int promise = x.page(p, 5);
+        return promise > free / 8 || promise < 0 ? "page " + p + " promises too much" : "";
+    }
+
+    /** What is amiss with what stands; where more slots are taken than can be asked for in the calls that are left, it is not told. */
     private static String amiss() {
-        int records = 0;
-        int cells = 0;
+        kinds = new int[6];
+        int[] slots = new int[8];
+        int all = 0;
         for (int p = 0; p < 8; p++) {
-            int slots = x.page(p, 0);
-            int free = 64 - 2 * slots;
-            int lowest = 64;
-            boolean[] taken = new boolean[64];
-            for (int s = 0; s < slots; s++) {
-                int kind = x.slot(p, s, 0);
-                int size = Math.max(0, x.slot(p, s, 2));
-                int begin = x.slot(p, s, 1);
-                if (kind == 0) {
-                    continue;
-                }
-                cells++;
-                records += kind == 1 || kind == 2 || kind == 4 ? 1 : 0;
-                if (size > 40 || begin < 2 * slots || begin + size > 64 || kind > 5 || kind == 2 && size != 2 || kind > 3 && size < 2) {
-                    return "cell " + p + " " + s;
-                }
-                for (int i = begin; i < begin + size; i++) {
-                    if (taken[i]) {
-                        return "cells over one another on page " + p;
-                    }
-                    taken[i] = true;
-                }
-                free -= size;
-                lowest = Math.min(lowest, begin);
-            }
-            if (slots > 12 || slots > 0 && x.slot(p, slots - 1, 0) == 0) {
-                return "directory of page " + p;
-            }
-            if (free != x.page(p, 2) || free < 0 || lowest - 2 * slots != x.page(p, 3) || x.page(p, 4) < 0) {
-                return "free, gap, waste of page " + p;
-            }
-            if (x.page(p, 5) > free / 8 || x.page(p, 5) < 0) {
-                return "page " + p + " promises too much";
+            slots[p] = x.page(p, 0);
+            all += slots[p];
+        }
+        if (all > SLOTS_SEEN) {
+            return "";
+        }
+        for (int p = 0; p < 8; p++) {
+            String of = amissOn(p, slots[p]);
+            if (!of.isEmpty()) {
+                return of;
             }
         }
+        int records = kinds[1] + kinds[2] + kinds[4];
+        int cells = records + kinds[3] + kinds[5];
         int chained = 0;
         int bytes = 0;
-        for (int i = 0; i < records; i++) {
-            int a = x.scan(i);
+        int a = -1;
+        boolean few = records <= 20;
+        for (int i = 0; i < records && few; i++) {
+            a = x.above(a);
             chained += x.pieces(a, 0);
             bytes += x.view(a);
         }
-        if (records != x.count(0) || cells != chained || bytes != x.count(1) || x.scan(records) != -1) {
+        if (kinds[2] != kinds[3] || records != x.count(0) || x.scan(records) != -1 || few && (cells != chained || bytes != x.count(1))) {
             return "records and their cells";
         }
-        return x.count(4) > 6 || x.count(5) > 16 || x.count(6) > 400 || x.count(12) >= x.count(4) ? "counts" : "";
+        boolean fine = x.count(2) == kinds[2] && x.count(3) == kinds[5];
+        return !fine || x.count(4) > 6 || x.count(5) > 16 || x.count(6) > 400 || x.count(12) >= x.count(4) ? "counts" : "";
+    }
+
+    /** Some calls, then what stands is looked at within the 512 calls of an object, then more calls, that may not throw either. */
+    private static String run(int seed) {
+        r = new Random(seed);
+        x = new RecordHeap();
+        Texts texts = new Texts(r);
+        int most = r.nextInt(CALLS - AMISS_CALLS);
+        Tape.calls = 0;
+        try {
+            for (int i = 0; 2 * i + Tape.calls < most; i++) {
+                anyCall(texts);
+            }
+            String amiss = amiss();
+            for (int i = 0; i < CALLS; i++) {
+                anyCall(texts);
+            }
+            return amiss;
+        } catch (Throwable e) {
+            e.printStackTrace(System.out);
+            return "thrown: " + e;
+        }
     }
 
     public static void main(String[] args) {
-        int runs = args.length > 0 ? Integer.parseInt(args[0]) : 1500;
+        int runs = args.length > 0 ? Integer.parseInt(args[0]) : 6000;
         String amiss = "";
-        for (int run = 0; run < runs && amiss.isEmpty(); run++) {
-            r = new Random(run);
-            x = new RecordHeap();
-            Texts texts = new Texts(r);
-            try {
-                for (int i = 0; i < 512 && amiss.isEmpty(); i++) {
-                    anyCall(texts);
-                    if (i % 3 == 0) {
-                        amiss = amiss();
-                    }
-                }
-            } catch (Throwable e) {
-                e.printStackTrace(System.out);
-                amiss = "thrown: " + e;
-            }
+        for (int seed = 0; seed < runs && amiss.isEmpty(); seed++) {
+            amiss = run(seed);
             if (!amiss.isEmpty()) {
-                System.out.println("  run " + run + ": " + amiss);
+                System.out.println("  run " + seed + ": " + amiss);
             }
         }
         System.out.println((amiss.isEmpty() ? "ok: " : "FAILED: ") + "no call throws, pages hold together");

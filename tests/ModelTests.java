@@ -1,13 +1,24 @@
 import java.util.Random;
 
-/** Random runs: the class and the model must answer alike, and must be alike behind each call. */
+/** Random runs of at most 512 calls: the class and the model must answer alike. */
 public final class ModelTests {
+    private static final int CALLS = 512;
+    private static final int MOST_OF_ONE = 32;
+    private static final int STAND = 200;
+
     private static int wrong = 0;
+    private static int calls = 0;
     private static RecordHeap heap;
     private static Model model;
     private static StringBuilder told;
 
+    /** Whether so many calls are left: what later ones answer is free. */
+    private static boolean left(int n) {
+        return calls + n <= CALLS;
+    }
+
     private static void alike(String call, long got, long want) {
+        calls++;
         told.append(call).append(" = ").append(got).append('\n');
         if (got != want) {
             wrong++;
@@ -28,66 +39,94 @@ public final class ModelTests {
         alike("end(" + bytes.length + ")", heap.end(bytes.length), model.end(bytes.length));
     }
 
-    private static void standsAlike() {
-        for (int p = -1; p <= 8; p++) {
-            for (int w = -1; w <= 6; w++) {
-                alike("page(" + p + ", " + w + ")", heap.page(p, w), model.page(p, w));
+    /** One of the asks, of what may be there or not. */
+    private static void askAlike(Random r) {
+        int p = r.nextInt(10) - 1;
+        int w = r.nextInt(8) - 1;
+        int a = address(r);
+        int i = r.nextInt(model.count(0) + 2) - 1;
+        int m = r.nextInt(43) - 1;
+        int law = r.nextInt(8) - 1;
+        switch (r.nextInt(22)) {
+            case 0: alike("page(" + p + ", " + w + ")", heap.page(p, w), model.page(p, w)); break;
+            case 1: case 2: slotAlike(r, r.nextInt(8)); break;
+            case 3: alike("drawn(" + p + ", " + w + ")", heap.drawn(p, w), model.drawn(p, w)); break;
+            case 4: countAlike(r.nextInt(18) - 1); break;
+            case 5: alike("status()", heap.status(), model.status()); break;
+            case 6: alike("fault()", heap.fault(), model.fault()); break;
+            case 7: alike("stopped()", heap.stopped(), model.stopped()); break;
+            case 8: alike("map(" + m + ")", heap.map(m), model.map(m)); break;
+            case 9: case 10: alike("search(" + m + ")", heap.search(m), model.search(m)); break;
+            case 11: alike("compare(" + law + ", " + m + ")", heap.compare(law, m), model.compare(law, m)); break;
+            case 12: alike("scan(" + i + ")", heap.scan(i), model.scan(i)); break;
+            case 13: case 14: alike("sorted(" + i + ")", heap.sorted(i), model.sorted(i)); break;
+            case 15: alike("above(" + a + ")", heap.above(a), model.above(a)); break;
+            case 16: alike("pieces(" + a + ", " + w + ")", heap.pieces(a, w), model.pieces(a, w)); break;
+            case 17: alike("view(" + a + ")", heap.view(a), model.view(a)); break;
+            case 18: signAlike(r.nextInt(model.viewed.length + 2) - 1); break;
+            case 19: alike("worst(" + p + ")", heap.worst(p), model.worst(p)); break;
+            case 20: {
+                int n = r.nextInt(203) - 1;
+                alike("fit(" + n + ")", heap.fit(n), model.fit(n));
+                break;
             }
-            for (int s = 0; s < heap.page(p, 0) + 1; s++) {
-                for (int w = 0; w < 3 + Math.max(0, heap.slot(p, s, 2)) + 1; w++) {
-                    alike("slot(" + p + ", " + s + ", " + w + ")", heap.slot(p, s, w), model.slot(p, s, w));
-                }
+            default: {
+                int k = r.nextInt(22);
+                int of = r.nextInt(102) - 1;
+                alike("few(" + k + ", " + of + ")", heap.few(k, of), model.few(k, of));
             }
-            for (int w = -1; w <= 3; w++) {
-                alike("drawn(" + p + ", " + w + ")", heap.drawn(p, w), model.drawn(p, w));
-            }
-        }
-        for (int w = -1; w <= 16; w++) {
-            alike("count(" + w + ")", heap.count(w), model.count(w));
-        }
-        alike("status()", heap.status(), model.status());
-        alike("fault()", heap.fault(), model.fault());
-        alike("stopped()", heap.stopped(), model.stopped());
-        for (int i = -1; i < 16; i++) {
-            alike("map(" + i + ")", heap.map(i), model.map(i));
         }
     }
 
-    private static void asksAlike(Random r) {
-        for (int m = -1; m <= 41; m++) {
-            alike("search(" + m + ")", heap.search(m), model.search(m));
-            int law = r.nextInt(8) - 1;
-            alike("compare(" + law + ", " + m + ")", heap.compare(law, m), model.compare(law, m));
+    private static void countAlike(int w) {
+        alike("count(" + w + ")", heap.count(w), model.count(w));
+    }
+
+    private static void signAlike(int k) {
+        alike("sign(" + k + ")", heap.sign(k), model.sign(k));
+    }
+
+    private static void slotAlike(Random r, int p) {
+        int s = r.nextInt(model.page(p, 0) + 1);
+        int w = r.nextInt(3 + Math.max(0, model.slot(p, s, 2)) + 1);
+        alike("slot(" + p + ", " + s + ", " + w + ")", heap.slot(p, s, w), model.slot(p, s, w));
+    }
+
+    /** All that stands, as far as calls are left. */
+    private static void standsAlike(Random r) {
+        for (int w = 0; w < 16; w++) {
+            countAlike(w);
         }
-        int records = heap.count(0);
-        for (int i = -1; i <= records; i++) {
-            alike("scan(" + i + ")", heap.scan(i), model.scan(i));
-            alike("sorted(" + i + ")", heap.sorted(i), model.sorted(i));
-            int a = heap.scan(i);
-            alike("above(" + a + ")", heap.above(a), model.above(a));
-            alike("pieces(" + a + ", 0)", heap.pieces(a, 0), model.pieces(a, 0));
-            alike("pieces(" + a + ", 1)", heap.pieces(a, 1), model.pieces(a, 1));
-            alike("view(" + a + ")", heap.view(a), model.view(a));
-            for (int k = -1; k < heap.view(a) + 1; k++) {
-                alike("sign(" + k + ")", heap.sign(k), model.sign(k));
+        for (int p = 0; p < 8; p++) {
+            for (int w = 0; w < 6; w++) {
+                alike("page(" + p + ", " + w + ")", heap.page(p, w), model.page(p, w));
             }
         }
-        for (int i = -1; i <= 8; i++) {
-            alike("worst(" + i + ")", heap.worst(i), model.worst(i));
+        for (int p = 0; p < 8; p++) {
+            for (int s = 0; s < model.page(p, 0) && left(3); s++) {
+                for (int w = 0; w < 3; w++) {
+                    alike("slot(" + p + ", " + s + ", " + w + ")", heap.slot(p, s, w), model.slot(p, s, w));
+                }
+            }
         }
-        int n = r.nextInt(203) - 1;
-        alike("fit(" + n + ")", heap.fit(n), model.fit(n));
-        int k = r.nextInt(22);
-        int of = r.nextInt(102) - 1;
-        alike("few(" + k + ", " + of + ")", heap.few(k, of), model.few(k, of));
+        for (int i = 0; i < model.count(0) && left(4); i++) {
+            int a = model.scan(i);
+            alike("view(" + a + ")", heap.view(a), model.view(a));
+            for (int k = 0; k < 3; k++) {
+                signAlike(r.nextInt(model.viewed.length + 1));
+            }
+        }
+        while (left(1)) {
+            askAlike(r);
+        }
     }
 
     private static int address(Random r) {
         if (r.nextInt(12) == 0) {
             return r.nextInt(140) - 5;
         }
-        int records = heap.count(0);
-        return records == 0 ? r.nextInt(20) : heap.scan(r.nextInt(records));
+        int records = model.count(0);
+        return records == 0 ? r.nextInt(20) : model.scan(r.nextInt(records));
     }
 
     private static int[] record(Random r) {
@@ -146,39 +185,33 @@ public final class ModelTests {
             int k = r.nextInt(4) - 1;
             alike("back(" + k + ")", heap.back(k), model.back(k));
         } else {
-            int records = heap.count(0);
             int[] bytes = record(r);
-            int a = records == 0 ? -1 : heap.scan(r.nextInt(records));
+            int a = address(r);
             alike("view(" + a + ")", heap.view(a), model.view(a));
-            if (a >= 0 && r.nextBoolean()) {
-                bytes = new int[heap.view(a)];
-                for (int i = 0; i < bytes.length; i++) {
-                    bytes[i] = heap.sign(i);
-                }
-            }
-            feed(bytes);
+            feed(r.nextInt(3) == 0 ? bytes : model.viewed);
             alike("find()", heap.find(), model.find());
         }
+    }
+
+    private static void begin(int seed) {
+        heap = new RecordHeap();
+        model = new Model();
+        calls = 0;
+        told = new StringBuilder("run " + seed + "\n");
     }
 
     private static void runs(int runs) {
         for (int run = 0; run < runs && wrong == 0; run++) {
             Random r = new Random(run);
             Texts texts = new Texts(r);
-            heap = new RecordHeap();
-            model = new Model();
-            told = new StringBuilder("run " + run + "\n");
-            for (int i = 0; i < 120 && wrong == 0; i++) {
+            begin(run);
+            while (left(STAND + MOST_OF_ONE) && wrong == 0) {
                 call(r, texts);
-                int mark = told.length();
-                standsAlike();
-                if (i % 8 == 0) {
-                    asksAlike(r);
-                }
-                if (wrong == 0) {
-                    told.setLength(mark);
+                for (int i = r.nextInt(4); i > 0; i--) {
+                    askAlike(r);
                 }
             }
+            standsAlike(r);
         }
     }
 
@@ -186,32 +219,36 @@ public final class ModelTests {
         for (int run = 0; run < runs && wrong == 0; run++) {
             Random r = new Random(1000000 + run);
             Texts texts = new Texts(r);
-            heap = new RecordHeap();
-            model = new Model();
-            told = new StringBuilder("texts " + run + "\n");
-            for (int i = 0; i < 100 && wrong == 0; i++) {
-                boolean ofOrders = r.nextBoolean();
-                String text = texts.bent(ofOrders);
-                feed(Tape.bytes(text));
-                if (ofOrders) {
-                    alike("orders() " + text, heap.orders(), model.orders());
-                } else {
-                    alike("law() " + text, heap.law(), model.law());
-                    int law = heap.count(4) - 1;
-                    for (int m = 0; m <= 40; m++) {
-                        alike("compare(" + law + ", " + m + ")", heap.compare(law, m), model.compare(law, m));
-                    }
-                    if (law == 5) {
-                        alike("back(0)", heap.back(0), model.back(0));
-                    }
-                }
-                alike("fault()", heap.fault(), model.fault());
-                alike("stopped()", heap.stopped(), model.stopped());
-                if (i % 20 == 0) {
-                    alike("image(0)", heap.image(0), model.image(0));
-                    standsAlike();
-                }
+            begin(1000000 + run);
+            alike("image(0)", heap.image(0), model.image(0));
+            while (left(STAND / 2 + 2 * MOST_OF_ONE) && wrong == 0) {
+                oneText(r, texts);
             }
+            standsAlike(r);
+        }
+    }
+
+    private static void oneText(Random r, Texts texts) {
+        boolean ofOrders = r.nextBoolean();
+        String text = texts.bent(ofOrders);
+        feed(Tape.bytes(text));
+        if (ofOrders) {
+            alike("orders() " + text, heap.orders(), model.orders());
+        } else {
+            alike("law() " + text, heap.law(), model.law());
+            int law = model.count(4) - 1;
+            for (int i = 0; i < 5; i++) {
+                int m = r.nextInt(41);
+                alike("compare(" + law + ", " + m + ")", heap.compare(law, m), model.compare(law, m));
+            }
+            if (law == 5) {
+                alike("back(0)", heap.back(0), model.back(0));
+            }
+        }
+        alike("fault()", heap.fault(), model.fault());
+        alike("stopped()", heap.stopped(), model.stopped());
+        if (r.nextInt(20) == 0) {
+            alike("image(0)", heap.image(0), model.image(0));
         }
     }
 
@@ -223,7 +260,7 @@ public final class ModelTests {
     }
 
     public static void main(String[] args) {
-        int runs = args.length > 0 ? Integer.parseInt(args[0]) : 300;
+        int runs = args.length > 0 ? Integer.parseInt(args[0]) : 3000;
         runs(runs);
         close("the class answers as the model does");
         texts(runs);

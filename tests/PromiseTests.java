@@ -1,73 +1,5 @@
 /** For each promise of the document what its words ask: ordinary inputs, edges, wrong inputs. */
-public final class PromiseTests {
-    private static final int MIN = Integer.MIN_VALUE;
-    private static final int MAX = Integer.MAX_VALUE;
-    private static final Check check = new Check();
-    private static RecordHeap x;
-
-    private static void due(String call, long got, long want) {
-        check.due(call, got, want);
-    }
-
-    private static void fresh() {
-        x = new RecordHeap();
-    }
-
-    private static int put(int n, int value) {
-        Tape.feed(x, Tape.row(n, value));
-        return x.put();
-    }
-
-    private static int put(String text) {
-        Tape.feed(x, text);
-        return x.put();
-    }
-
-    private static int rewrite(int address, int n, int value) {
-        Tape.feed(x, Tape.row(n, value));
-        return x.rewrite(address);
-    }
-
-    private static int law(String text) {
-        Tape.feed(x, text);
-        return x.law();
-    }
-
-    private static int orders(String text) {
-        Tape.feed(x, text);
-        return x.orders();
-    }
-
-    private static int find(String text) {
-        Tape.feed(x, text);
-        return x.find();
-    }
-
-    private static void faultOfLaw(String text, int place) {
-        due("law " + text, law(text), -6);
-        due("fault of " + text, x.fault(), place);
-    }
-
-    private static void faultOfOrders(String text, int place) {
-        due("orders " + text, orders(text), -6);
-        due("fault of " + text, x.fault(), place);
-        due("stopped of " + text, x.stopped(), -1);
-    }
-
-    /** A law that is in force then, alone. */
-    private static void rule(String text) {
-        due("law " + text, law(text) >= 0 ? 0 : -1, 0);
-        x.force(x.count(4) - 1);
-    }
-
-    private static String many(String part, String between, int n) {
-        StringBuilder s = new StringBuilder();
-        for (int i = 0; i < n; i++) {
-            s.append(i > 0 ? between : "").append(part);
-        }
-        return s.toString();
-    }
-
+public final class PromiseTests extends Bench {
     private static void p01() {
         fresh();
         for (int p = 0; p < 8; p++) {
@@ -1466,12 +1398,6 @@ public final class PromiseTests {
         x.drop(0);
         x.back(0);
         due("back", x.status(), 0);
-    }
-
-    private static void run(String name, Runnable test) {
-        check.begin(name);
-        test.run();
-        check.end();
     }
 
     public static void main(String[] args) {

@@ -1,5 +1,8 @@
 /** Feeds a text or a row of bytes to the tape of a heap, behind what it has. */
 final class Tape {
+    /** How many calls were made here. */
+    static int calls = 0;
+
     static void feed(RecordHeap heap, int[] bytes) {
         int has = heap.count(6);
         for (int from = 0; from < bytes.length; from += 20) {
@@ -9,8 +12,10 @@ final class Tape {
                 n[i / 4] = n[i / 4] << 8 | value;
             }
             heap.feed(n[0], n[1], n[2], n[3], n[4]);
+            calls++;
         }
         heap.end(has + bytes.length);
+        calls += 2;
     }
 
     static int[] bytes(String text) {
