@@ -334,6 +334,23 @@ public final class PageBoundTests extends Bench {
         same("packed twice", was);
     }
 
+    private static void packedBytes() {
+        put(1, 0);
+        int[] bytes = mixed(20);
+        Tape.feed(x, bytes);
+        x.put();
+        x.drop(0);
+        due("to the end", x.pack(0), 1);
+        cell("at the end", 1, 1, 44, 20);
+        seen("at the end", 1, bytes);
+        due("below it", put(5, 9), 0);
+        due("none is wasted", x.pack(0), 0);
+        cell("the lower slot lies higher", 0, 1, 59, 5);
+        cell("below it", 1, 1, 39, 20);
+        seen("its first and its last byte, too", 1, bytes);
+        seen("the other one", 0, Tape.row(5, 9));
+    }
+
     private static void cellLeaves() {
         for (int i = 0; i < 5; i++) {
             x.put();
@@ -676,6 +693,7 @@ public final class PageBoundTests extends Bench {
         run("terms III: packed first if gap is less, in an empty slot", PageBoundTests::packedForAnEmptyOne);
         run("terms III: right below the lowest cell, one of no bytes is one as any", PageBoundTests::belowTheLowest);
         run("terms III: packed, those of lower slots higher", PageBoundTests::packedOrder);
+        run("terms III: packed, all bytes come along", PageBoundTests::packedBytes);
         run("terms III: the directory ends with the highest slot that is not empty", PageBoundTests::cellLeaves);
         run("terms III: search, promise m and 9 by 8 at least", PageBoundTests::searchPromise);
         run("terms III: search, free less m less 2", PageBoundTests::searchFree);

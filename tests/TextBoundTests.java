@@ -497,6 +497,7 @@ public final class TextBoundTests extends Bench {
     }
 
     private static void orderWords() {
+        due("latest 0", orders("mend if latest = 0; put 1 of 1; mend if latest = 0; drop latest; mend if latest = 0"), 4);
         so("done = 0");
         so("latest = 0 - 1");
         so("live = 0");
