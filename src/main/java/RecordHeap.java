@@ -1633,7 +1633,7 @@ public final class RecordHeap {
 
         private int draw(int m) {
             seed = (seed * DRAW_TIMES + DRAW_MORE) % DRAW_REST;
-            return seed % m;
+            return m > 0 ? seed % m : 0;
         }
 
         private void passDay() {
